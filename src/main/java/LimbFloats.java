@@ -606,11 +606,12 @@ public final class LimbFloats {
     }
 
     private int roomAbove(long m) {
-        int room = 0;
-        while (room < 63 && m << room > 0) {
-            room++;
+        for (int room = 0; room < 63; room++) {
+            if (m << room < 0) {
+                return room;
+            }
         }
-        return room;
+        return 63;
     }
 
     // Longs that stand for numbers from 0 to 2^64 - 1.

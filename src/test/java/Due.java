@@ -22,12 +22,6 @@ final class Due {
         same(what, got, false);
     }
 
-    /** What a slot holds, and the flags raised since they were last taken. */
-    void holds(String what, Trial trial, int slot, String want, int flags) {
-        same(what, trial.show(slot), want);
-        same(what + " (flags)", trial.floats.flags(), flags);
-    }
-
     void end() {
         System.out.println(asked + " answers looked at, " + wrong + " not as due");
         if (wrong != 0 || asked == 0) {

@@ -101,6 +101,7 @@ public final class ModelRunsTest {
     private void meet(Both both, int x, int y) {
         switch (below(3)) {
             case 0:
+                both.special(5, 0, coin());
                 both.calculate(2, x, y, 6);
                 both.calculate(1, 5, 6, 7);
                 both.fuse(x, y, 7, 6);

@@ -1,8 +1,10 @@
 import java.math.BigInteger;
 
-/** A new object and the precision it has, so that what its slots hold can be told as a number. */
+/**
+ * An object whose floats are told as texts: "+3p-2" is 3 * 2^-2 at every precision, with an "s"
+ * behind it if it is subnormal; "+0", "-inf" and "not" are the others.
+ */
 final class Trial {
-    static final int INEXACT = 1, UNDERFLOW = 2, OVERFLOW = 4, DIVISION = 8, INVALID = 16;
     static final int ADD = 0, SUBTRACT = 1, MULTIPLY = 2, DIVIDE = 3, REMAINDER = 4, LEAST = 5, GREATEST = 6;
 
     final LimbFloats floats;
@@ -13,10 +15,7 @@ final class Trial {
         this.precision = Math.max(2, Math.min(64, precision));
     }
 
-    /**
-     * "+3p-2" for 3 * 2^-2 at every precision, with an "s" behind it if it is subnormal; "+0", "-inf",
-     * "not". A "?" follows where the calls contradict each other.
-     */
+    /** A "?" follows where the calls contradict each other. */
     String show(int slot) {
         String sign = floats.negative(slot) ? "-" : "+";
         int exponent = floats.exponent(slot);
@@ -37,6 +36,14 @@ final class Trial {
         }
     }
 
+    String showAll() {
+        StringBuilder all = new StringBuilder();
+        for (int slot = 0; slot < 8; slot++) {
+            all.append(show(slot)).append(slot < 7 ? " " : "");
+        }
+        return all.toString();
+    }
+
     BigInteger whole(int slot) {
         BigInteger whole = BigInteger.ZERO;
         for (int k = 3; k >= 0; k--) {
@@ -54,17 +61,116 @@ final class Trial {
         return whole.signum() == 0 && exponent == -1000 ? "" : "?";
     }
 
-    /** Any float of up to 64 bits: sign * whole * 2^unit, through slots into and spare. Takes the flags. */
-    void set(int into, int spare, boolean negative, long whole, int unit) {
-        int sign = negative ? -1 : 1;
-        int low = (int) (whole & 0x3FFFFFFF);
-        int middle = (int) (whole >>> 30 & 0x3FFFFFFF);
-        int high = (int) (whole >>> 60);
-        floats.load(into, sign * high, unit + 60);
-        floats.load(spare, sign * middle, unit + 30);
-        floats.calculate(ADD, into, spare, into);
-        floats.load(spare, sign * low, unit);
-        floats.calculate(ADD, into, spare, into);
-        floats.flags();
+    /** A slot becomes what the text tells, which must be a float; slot 7 is spare for long ones. */
+    void put(int into, String text) {
+        boolean negative = text.startsWith("-");
+        switch (text) {
+            case "+0", "-0":
+                floats.special(into, 0, negative);
+                break;
+            case "+inf", "-inf":
+                floats.special(into, 1, negative);
+                break;
+            case "not":
+                floats.special(into, 2, negative);
+                break;
+            default:
+                String[] parts = text.substring(1).replace("s", "").split("p");
+                putFinite(into, negative, new BigInteger(parts[0]), Integer.parseInt(parts[1]));
+        }
+        if (floats.flags() != 0) {
+            throw new IllegalArgumentException(text + " is no float of precision " + precision);
+        }
+    }
+
+    private void putFinite(int into, boolean negative, BigInteger whole, int unit) {
+        floats.special(into, 0, negative);
+        for (int i = 2; i >= 0; i--) {
+            int part = whole.shiftRight(30 * i).intValue() & 0x3FFFFFFF;
+            floats.load(7, negative ? -part : part, unit + 30 * i);
+            floats.calculate(ADD, into, 7, into);
+        }
+    }
+
+    private String resultOf(int slot) {
+        String shown = show(slot);
+        return shown + " " + floats.flags();
+    }
+
+    private static Trial with(int precision, int mode, String... values) {
+        Trial trial = new Trial(precision);
+        for (int i = 0; i < values.length; i++) {
+            trial.put(i, values[i]);
+        }
+        trial.floats.mode(mode);
+        return trial;
+    }
+
+    // Each of these answers the result and the flags, as in "+inf 5".
+
+    static String loaded(int precision, int mode, int m, int e) {
+        Trial trial = with(precision, mode);
+        trial.floats.load(6, m, e);
+        return trial.resultOf(6);
+    }
+
+    static String calculated(int precision, int mode, int op, String x, String y) {
+        Trial trial = with(precision, mode, x, y);
+        trial.floats.calculate(op, 0, 1, 6);
+        return trial.resultOf(6);
+    }
+
+    static String fused(int precision, int mode, String x, String y, String z) {
+        Trial trial = with(precision, mode, x, y, z);
+        trial.floats.fuse(0, 1, 2, 6);
+        return trial.resultOf(6);
+    }
+
+    static String rooted(int precision, int mode, String x) {
+        Trial trial = with(precision, mode, x);
+        trial.floats.root(0, 6);
+        return trial.resultOf(6);
+    }
+
+    static String madeWhole(int precision, int mode, String x) {
+        Trial trial = with(precision, mode, x);
+        trial.floats.whole(0, 6);
+        return trial.resultOf(6);
+    }
+
+    static String stepped(int precision, int mode, String x, boolean up) {
+        Trial trial = with(precision, mode, x);
+        trial.floats.step(0, up, 6);
+        return trial.resultOf(6);
+    }
+
+    static String scaled(int precision, int mode, String x, int k) {
+        Trial trial = with(precision, mode, x);
+        trial.floats.scale(0, k, 6);
+        return trial.resultOf(6);
+    }
+
+    static int compared(int precision, String x, String y) {
+        return with(precision, 0, x, y).floats.compare(0, 1);
+    }
+
+    /** An object with something of every kind in its slots, mode 2 and the flags of an underflow. */
+    static Trial full(int precision) {
+        Trial trial = with(precision, 2, "+3p0", "-3p-3", "+0", "-0", "+inf", "-inf", "not");
+        trial.floats.load(7, 1, -300);
+        return trial;
+    }
+
+    /** All that shows of a {@link #full} object, at the price of its flags; 1/3 tells the mode. */
+    String state() {
+        String slots = showAll();
+        int flags = floats.flags();
+        floats.load(0, 1, 0);
+        floats.load(1, 3, 0);
+        floats.calculate(DIVIDE, 0, 1, 2);
+        String up = show(2);
+        floats.load(0, -1, 0);
+        floats.calculate(DIVIDE, 0, 1, 2);
+        return slots + ", flags " + flags + ", 1/3 " + up + ", -1/3 " + show(2);
     }
 }

@@ -1,0 +1,79 @@
+public final class Promise17FlagsTest {
+    private static final Due due = new Due();
+
+    public static void main(String[] args) {
+        each();
+        sums();
+        stay();
+        due.end();
+    }
+
+    private static void taken(String what, LimbFloats floats, int want) {
+        due.same("flags after " + what, floats.flags(), want);
+        due.same("flags after they were taken, " + what, floats.flags(), 0);
+    }
+
+    private static void each() {
+        LimbFloats floats = new LimbFloats(5);
+        taken("nothing", floats, 0);
+        floats.load(0, 33, 0);
+        taken("33 at 5 bits", floats, 1);
+        floats.load(0, 1, -105);
+        taken("2^-105", floats, 1 + 2);
+        floats.load(0, 1, 101);
+        taken("2^101", floats, 1 + 4);
+        floats.load(0, 1, 0);
+        floats.calculate(3, 0, 1, 2);
+        taken("1 / 0", floats, 8);
+        floats.calculate(3, 1, 1, 2);
+        taken("0 / 0", floats, 16);
+        floats.calculate(0, 2, 0, 3);
+        taken("not a number + 1", floats, 0);
+        floats.load(0, 31, 0);
+        taken("31", floats, 0);
+    }
+
+    /** A flag that is raised twice counts once. */
+    private static void sums() {
+        LimbFloats floats = new LimbFloats(5);
+        floats.load(0, -1, 0);
+        floats.root(0, 2);
+        floats.root(0, 2);
+        floats.calculate(3, 0, 1, 3);
+        floats.calculate(3, 0, 1, 3);
+        taken("two roots and two divisions", floats, 24);
+        floats.root(0, 2);
+        floats.calculate(3, 0, 1, 3);
+        floats.load(4, 1, 200);
+        floats.load(4, 1, 200);
+        floats.load(5, 1, -200);
+        floats.load(5, 1, -200);
+        taken("all of them", floats, 31);
+        floats.load(4, 1, 200);
+        floats.load(5, 33, 0);
+        taken("an overflow and an inexact result", floats, 5);
+    }
+
+    /** Nothing but flags() takes them, and a result without one leaves them. */
+    private static void stay() {
+        LimbFloats floats = new LimbFloats(5);
+        floats.load(0, 1, -300);
+        floats.special(0, 0, false);
+        floats.load(1, 3, 0);
+        floats.mode(1);
+        floats.calculate(0, 1, 1, 2);
+        floats.calculate(9, 1, 1, 2);
+        floats.fuse(1, 1, 1, 2);
+        floats.root(0, 2);
+        floats.whole(1, 2);
+        floats.step(1, true, 2);
+        floats.scale(1, 3, 2);
+        floats.compare(0, 1);
+        floats.integer(1);
+        floats.kind(0);
+        floats.negative(0);
+        floats.exponent(1);
+        floats.bits(1, 0);
+        taken("an underflow and all other calls", floats, 3);
+    }
+}
