@@ -5,6 +5,9 @@ public final class Promise12IntegerTest {
     public static void main(String[] args) {
         is(24, "+5p0", 5);
         is(24, "-5p0", -5);
+        is(24, "+1p0", 1);
+        is(24, "-7p-2", -1);
+        is(24, "+3p-2", 0);
         is(24, "+23p-3", 2);
         is(24, "-23p-3", -2);
         is(24, "+1p-1", 0);
