@@ -148,8 +148,7 @@ public final class LimbFloats {
         } else if (kinds[x] == INFINITE) {
             putPlain(into, INFINITE, false);
         } else {
-            clearLimbs();
-            addRoot(x);
+            holdRoot(x);
             settle(into, false);
         }
         return true;
@@ -315,8 +314,7 @@ public final class LimbFloats {
         } else if (kinds[x] == ZERO || kinds[y] == INFINITE) {
             copyFloat(x, into);
         } else {
-            clearLimbs();
-            addRemainder(x, y);
+            holdRemainder(x, y);
             settle(into, signs[x]);
         }
     }
@@ -494,7 +492,7 @@ public final class LimbFloats {
         }
     }
 
-    // Exact values, added to what the limbs hold.
+    // Exact values: add.. changes what the limbs hold by one, hold.. works in them and leaves one.
 
     private void addFloat(boolean sign, int x) {
         int unit = unitOf(x);
@@ -541,7 +539,7 @@ public final class LimbFloats {
     }
 
     // First x - n y with n cut towards 0, by long division; then one y more if that is nearer.
-    private void addRemainder(int x, int y) {
+    private void holdRemainder(int x, int y) {
         int roomX = roomAbove(wholes[x]);
         int roomY = roomAbove(wholes[y]);
         int unit = unitOf(x) - roomX;
@@ -562,6 +560,7 @@ public final class LimbFloats {
         if (gap > 0) {
             unit = unitY;
         }
+        clearLimbs();
         addIn(false, rest, unit + 1);
         addIn(true, divisor, unitY);
         int half = signOfLimbs();
@@ -574,7 +573,7 @@ public final class LimbFloats {
 
     // x is a square of 127 or 128 bits times 2^unit with an even unit: so the whole part of the
     // root has the 64 bits of the greatest precision.
-    private void addRoot(int x) {
+    private void holdRoot(int x) {
         int unit = unitOf(x) - roomAbove(wholes[x]) - 63;
         if ((unit & 1) != 0) {
             unit--;
