@@ -4,6 +4,7 @@ public final class Promise17FlagsTest {
     public static void main(String[] args) {
         each();
         sums();
+        joinOthers();
         stay();
         due.end();
     }
@@ -52,6 +53,47 @@ public final class Promise17FlagsTest {
         floats.load(4, 1, 200);
         floats.load(5, 33, 0);
         taken("an overflow and an inexact result", floats, 5);
+    }
+
+    /** Every way to raise a flag leaves those that were there: first INVALID's, then UNDERFLOW's. */
+    private static void joinOthers() {
+        String[] calls = {"load", "calculate", "fuse", "root", "whole", "scale", "divide by zero", "be invalid"};
+        int[] wantFirst = {17, 17, 17, 17, 17, 19, 24, 16};
+        int[] wantThen = {3, 3, 3, 3, 3, 3, 11, 19};
+        for (int i = 0; i < calls.length; i++) {
+            LimbFloats floats = prepared();
+            floats.calculate(3, 4, 4, 7);
+            raise(floats, i);
+            taken("0 / 0 and " + calls[i], floats, wantFirst[i]);
+            floats.load(7, 1, -300);
+            raise(floats, i);
+            taken("an underflow and " + calls[i], floats, wantThen[i]);
+        }
+    }
+
+    /** 1, 3, 2.5, the least float, and zeros. */
+    private static LimbFloats prepared() {
+        LimbFloats floats = new LimbFloats(5);
+        floats.load(0, 1, 0);
+        floats.load(1, 3, 0);
+        floats.load(2, 5, -1);
+        floats.step(3, true, 3);
+        return floats;
+    }
+
+    private static void raise(LimbFloats floats, int which) {
+        boolean done;
+        switch (which) {
+            case 0 -> done = floats.load(7, 33, 0);
+            case 1 -> done = floats.calculate(3, 0, 1, 7);
+            case 2 -> done = floats.fuse(3, 3, 0, 7);
+            case 3 -> done = floats.root(1, 7);
+            case 4 -> done = floats.whole(2, 7);
+            case 5 -> done = floats.scale(3, -1, 7);
+            case 6 -> done = floats.calculate(3, 0, 4, 7);
+            default -> done = floats.calculate(4, 0, 4, 7);
+        }
+        due.yes("call " + which, done);
     }
 
     /** Nothing but flags() takes them, and a result without one leaves them. */
