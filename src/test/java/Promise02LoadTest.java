@@ -1,13 +1,16 @@
 public final class Promise02LoadTest {
     private static final Due due = new Due();
+    private static final Refusal refusal = new Refusal(due);
 
     public static void main(String[] args) {
-        exact();
-        rounded();
-        underflow();
-        overflow();
-        flagsGather();
-        refused();
+        due.sentence("A float becomes m * 2^e", Promise02LoadTest::exact);
+        due.sentence("rounded", Promise02LoadTest::rounded);
+        due.sentence("rounded: at least -100", Promise02LoadTest::underflow);
+        due.sentence("rounded: 2^101 or more", Promise02LoadTest::overflow);
+        due.sentence("(+0 if m is 0)", Promise02LoadTest::nothing);
+        due.sentence("true", Promise02LoadTest::accepted);
+        due.sentence("false, and nothing changes, if into is not 0..7", Promise02LoadTest::noSlot);
+        due.sentence("or e not -300..300", Promise02LoadTest::tooFar);
         due.end();
     }
 
@@ -24,11 +27,6 @@ public final class Promise02LoadTest {
         load(64, 0, 1, -163, "+1p-163s 0");
         load(64, 0, 1, -100, "+1p-100 0");
         load(64, 0, Integer.MIN_VALUE, -194, "-1p-163s 0");
-        for (int mode = 0; mode < 5; mode++) {
-            load(5, mode, 0, 0, "+0 0");
-            load(5, mode, 0, 300, "+0 0");
-            load(5, mode, 0, -300, "+0 0");
-        }
     }
 
     /** 45 = 101101b at 3 bits lies between 40 and 48; 44 is the tie; 36 is the tie below an odd one's. */
@@ -89,30 +87,52 @@ public final class Promise02LoadTest {
         }
     }
 
-    private static void flagsGather() {
-        Trial trial = new Trial(5);
-        trial.floats.load(0, 33, 0);
-        trial.floats.load(0, 1, 101);
-        trial.floats.load(0, 1, -300);
-        trial.floats.load(0, 1, 0);
-        due.same("flags of four loads", trial.floats.flags(), 7);
+    /** In every mode, and over whatever was there before. */
+    private static void nothing() {
+        for (int mode = 0; mode < 5; mode++) {
+            for (int e = -300; e <= 300; e += 100) {
+                load(2, mode, 0, e, "+0 0");
+                load(64, mode, 0, e, "+0 0");
+            }
+            Trial trial = Trial.ofEveryKind(24, mode, 0);
+            for (int into = 0; into < 8; into++) {
+                due.yes("load 0 into " + into, trial.floats.load(into, 0, 0));
+            }
+            due.same("zeros in mode " + mode, trial.showAll(), "+0 +0 +0 +0 +0 +0 +0 +0");
+        }
     }
 
-    private static void refused() {
-        String before = Trial.full(24).state();
-        int[][] wrong = {{-1, 1, 0}, {8, 1, 0}, {Integer.MIN_VALUE, 1, 0}, {Integer.MAX_VALUE, 1, 0},
-            {0, 1, -301}, {0, 1, 301}, {0, 0, 301}, {0, 1, Integer.MIN_VALUE}, {0, 1, Integer.MAX_VALUE}, {9, 1, 400}};
-        for (int[] w : wrong) {
-            Trial trial = Trial.full(24);
-            due.no("load(" + w[0] + ", " + w[1] + ", " + w[2] + ")", trial.floats.load(w[0], w[1], w[2]));
-            due.same("after a refused load", trial.state(), before);
-        }
+    private static void accepted() {
         Trial trial = new Trial(24);
         for (int into = 0; into < 8; into++) {
             due.yes("load into " + into, trial.floats.load(into, into + 1, 0));
         }
         due.same("eight loads", trial.showAll(), "+1p0 +1p1 +3p0 +1p2 +5p0 +3p1 +7p0 +1p3");
-        due.yes("load with e = 300", trial.floats.load(0, 1, 300));
-        due.yes("load with e = -300", trial.floats.load(0, 1, -300));
+        for (int e = -300; e <= 300; e++) {
+            String want = e < -123 ? "-0 3" : e > 100 ? "-inf 5" : "-1p" + e + (e < -100 ? "s 0" : " 0");
+            load(24, 0, -1, e, want);
+        }
+        load(24, 0, Integer.MAX_VALUE, 300, "+inf 5");
+        load(24, 0, Integer.MIN_VALUE, 300, "-inf 5");
+        load(24, 0, Integer.MAX_VALUE, -300, "+0 3");
+        load(24, 0, Integer.MIN_VALUE, -300, "-0 3");
+    }
+
+    private static void noSlot() {
+        for (int into : Refusal.NO_SLOTS) {
+            refusal.refused("load(" + into + ", 1, 0)", f -> f.load(into, 1, 0));
+            refusal.refused("load(" + into + ", 1, 300)", f -> f.load(into, 1, 300));
+            refusal.refused("load(" + into + ", 0, -300)", f -> f.load(into, 0, -300));
+        }
+    }
+
+    private static void tooFar() {
+        for (int e : new int[] {-301, 301, -302, 302, 65536, Integer.MIN_VALUE, Integer.MAX_VALUE}) {
+            for (int m : new int[] {1, 0, -7, Integer.MIN_VALUE}) {
+                refusal.refused("load(0, " + m + ", " + e + ")", f -> f.load(0, m, e));
+            }
+            refusal.refused("load(7, 1, " + e + ")", f -> f.load(7, 1, e));
+            refusal.refused("load(8, 1, " + e + ")", f -> f.load(8, 1, e));
+        }
     }
 }

@@ -1,17 +1,24 @@
 public final class Promise03SpecialTest {
+    private static final String[] PLUS = {"+0", "+inf", "not"};
+    private static final String[] MINUS = {"-0", "-inf", "not"};
     private static final Due due = new Due();
+    private static final Refusal refusal = new Refusal(due);
 
     public static void main(String[] args) {
-        String[] plus = {"+0", "+inf", "not"};
-        String[] minus = {"-0", "-inf", "not"};
-        for (int what = 0; what < 3; what++) {
-            for (int into = 0; into < 8; into++) {
-                becomes(into, what, false, plus[what]);
-                becomes(into, what, true, minus[what]);
-            }
-        }
-        refused();
+        due.sentence("A float becomes zero (what 0)", () -> becomes(0));
+        due.sentence("infinite (1)", () -> becomes(1));
+        due.sentence("or not a number (2)", () -> becomes(2));
+        due.sentence("with that sign", Promise03SpecialTest::overAnyFloat);
+        due.sentence("false, and nothing changes, if into is none of these", Promise03SpecialTest::noSlot);
+        due.sentence("false, and nothing changes, if what is none of these", Promise03SpecialTest::noSuchThing);
         due.end();
+    }
+
+    private static void becomes(int what) {
+        for (int into = 0; into < 8; into++) {
+            becomes(into, what, false, PLUS[what]);
+            becomes(into, what, true, MINUS[what]);
+        }
     }
 
     private static void becomes(int into, int what, boolean negative, String want) {
@@ -27,14 +34,38 @@ public final class Promise03SpecialTest {
         due.same("special sets no flag", trial.floats.flags(), 0);
     }
 
-    private static void refused() {
-        String before = Trial.full(11).state();
-        int[][] wrong = {{-1, 0}, {8, 1}, {0, -1}, {0, 3}, {1, 4}, {Integer.MAX_VALUE, 2}, {Integer.MIN_VALUE, 2},
-            {0, Integer.MAX_VALUE}, {0, Integer.MIN_VALUE}};
-        for (int[] w : wrong) {
-            Trial trial = Trial.full(11);
-            due.no("special(" + w[0] + ", " + w[1] + ")", trial.floats.special(w[0], w[1], true));
-            due.same("after a refused special", trial.state(), before);
+    /** The older float's sign does not stay, in no mode, and flags do. */
+    private static void overAnyFloat() {
+        for (int mode = 0; mode < 5; mode++) {
+            for (int into = 0; into < 8; into++) {
+                for (int what = 0; what < 3; what++) {
+                    Trial trial = Trial.ofEveryKind(11, mode, 31);
+                    trial.floats.special(into, what, false);
+                    due.same("special " + what + " into slot " + into, trial.show(into), PLUS[what]);
+                    trial.floats.special(into, what, true);
+                    due.same("special " + what + " into slot " + into, trial.show(into), MINUS[what]);
+                    due.same("flags stay over special", trial.floats.flags(), 31);
+                }
+            }
+        }
+    }
+
+    private static void noSlot() {
+        for (int into : Refusal.NO_SLOTS) {
+            for (int what = 0; what < 3; what++) {
+                int thing = what;
+                refusal.refused("special(" + into + ", " + what + ")", f -> f.special(into, thing, true));
+            }
+        }
+    }
+
+    private static void noSuchThing() {
+        for (int what : new int[] {-1, 3, 4, 256, Integer.MIN_VALUE, Integer.MAX_VALUE}) {
+            for (int into = 0; into < 8; into++) {
+                int slot = into;
+                refusal.refused("special(" + into + ", " + what + ")", f -> f.special(slot, what, false));
+            }
+            refusal.refused("special(8, " + what + ")", f -> f.special(8, what, true));
         }
     }
 }

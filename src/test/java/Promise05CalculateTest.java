@@ -3,18 +3,20 @@ public final class Promise05CalculateTest {
     private static final int REMAINDER = Trial.REMAINDER, LEAST = Trial.LEAST, GREATEST = Trial.GREATEST;
     private static final String ALL_ONES = "18446744073709551615";
     private static final Due due = new Due();
+    private static final Refusal refusal = new Refusal(due);
 
     public static void main(String[] args) {
-        ordinary();
-        rounding();
-        zeroSums();
-        edgesOfTheRange();
-        specials();
-        notANumber();
-        remainders();
-        leastAndGreatest();
-        sameSlots();
-        refused();
+        due.sentence("Float into becomes ... of floats x and y: true", Promise05CalculateTest::ordinary);
+        due.sentence("x + y (op 0), x - y (1), x y (2), x / y (3)", Promise05CalculateTest::rounding);
+        due.sentence("x + y (op 0), x - y (1): exactly 0", Promise05CalculateTest::zeroSums);
+        due.sentence("x + y (op 0) to x / y (3): too small, too large", Promise05CalculateTest::edgesOfTheRange);
+        due.sentence("x + y (op 0) to x / y (3): infinite, zero", Promise05CalculateTest::specials);
+        due.sentence("x + y (op 0) to the greatest (6): not a number", Promise05CalculateTest::notANumber);
+        due.sentence("the remainder (4)", Promise05CalculateTest::remainders);
+        due.sentence("the least (5), the greatest (6)", Promise05CalculateTest::leastAndGreatest);
+        due.sentence("Float into", Promise05CalculateTest::sameSlots);
+        due.sentence("false, and nothing changes, if op is none of these", Promise05CalculateTest::noSuchOperation);
+        due.sentence("false, and nothing changes, if a slot is none of these", Promise05CalculateTest::noSlot);
         due.end();
     }
 
@@ -192,20 +194,26 @@ public final class Promise05CalculateTest {
         due.same("the others stay", trial.showAll(), "+0 +0 +0 +0 -inf -inf +0 +0");
     }
 
-    private static void refused() {
-        String before = Trial.full(24).state();
-        int[][] wrong = {{-1, 0, 1, 2}, {7, 0, 1, 2}, {0, -1, 1, 2}, {0, 8, 1, 2}, {0, 0, -1, 2}, {0, 0, 8, 2},
-            {0, 0, 1, -1}, {0, 0, 1, 8}, {3, 0, 2, 8}, {2, 2, 4, -1}, {4, 4, 2, 8}, {5, 6, 0, 8}, {0, 6, 8, 0},
-            {Integer.MIN_VALUE, 0, 1, 2}, {Integer.MAX_VALUE, 0, 1, 2}, {0, Integer.MAX_VALUE, 1, 2},
-            {0, 0, Integer.MIN_VALUE, 2}, {0, 0, 1, Integer.MAX_VALUE}};
-        for (int[] w : wrong) {
-            Trial trial = Trial.full(24);
-            String call = "calculate(" + w[0] + ", " + w[1] + ", " + w[2] + ", " + w[3] + ")";
-            due.no(call, trial.floats.calculate(w[0], w[1], w[2], w[3]));
-            due.same("after " + call, trial.state(), before);
+    private static void noSuchOperation() {
+        for (int op : new int[] {-1, 7, 8, 256, Integer.MIN_VALUE, Integer.MAX_VALUE}) {
+            refusal.refused("calculate(" + op + ", 0, 1, 2)", f -> f.calculate(op, 0, 1, 2));
+            refusal.refused("calculate(" + op + ", 4, 5, 7)", f -> f.calculate(op, 4, 5, 7));
+            refusal.refused("calculate(" + op + ", 6, 6, 0)", f -> f.calculate(op, 6, 6, 0));
+            refusal.refused("calculate(" + op + ", 8, 0, 0)", f -> f.calculate(op, 8, 0, 0));
         }
-        for (int op = ADD; op <= GREATEST; op++) {
-            due.yes("calculate " + op, Trial.full(24).floats.calculate(op, 6, 7, 0));
+    }
+
+    /** With operands that would raise a flag, 3 / 0 and inf - inf among them, and with not a number. */
+    private static void noSlot() {
+        for (int none : Refusal.NO_SLOTS) {
+            for (int op = ADD; op <= GREATEST; op++) {
+                int o = op;
+                refusal.refused("calculate(" + op + ", " + none + ", 1, 2)", f -> f.calculate(o, none, 1, 2));
+                refusal.refused("calculate(" + op + ", 0, " + none + ", 2)", f -> f.calculate(o, 0, none, 2));
+                refusal.refused("calculate(" + op + ", 6, " + none + ", 0)", f -> f.calculate(o, 6, none, 0));
+                refusal.refused("calculate(" + op + ", 0, 2, " + none + ")", f -> f.calculate(o, 0, 2, none));
+                refusal.refused("calculate(" + op + ", 4, 5, " + none + ")", f -> f.calculate(o, 4, 5, none));
+            }
         }
     }
 }

@@ -1,14 +1,16 @@
 public final class Promise06FuseTest {
     private static final Due due = new Due();
+    private static final Refusal refusal = new Refusal(due);
 
     public static void main(String[] args) {
-        ordinary();
-        roundedOnce();
-        zeroSums();
-        specials();
-        notANumber();
-        sameSlots();
-        refused();
+        due.sentence("Float into becomes x y + z", Promise06FuseTest::ordinary);
+        due.sentence("rounded once", Promise06FuseTest::roundedOnce);
+        due.sentence("x y + z: exactly 0", Promise06FuseTest::zeroSums);
+        due.sentence("x y + z: too small, too large", Promise06FuseTest::edgesOfTheRange);
+        due.sentence("x y + z: infinite", Promise06FuseTest::specials);
+        due.sentence("x y + z: not a number", Promise06FuseTest::notANumber);
+        due.sentence("Float into", Promise06FuseTest::sameSlots);
+        due.sentence("false, and nothing changes, if there is no such slot", Promise06FuseTest::noSlot);
         due.end();
     }
 
@@ -76,6 +78,22 @@ public final class Promise06FuseTest {
         inModes(5, "+1p-104s", "+1p-104s", "-0", "+0 3", "+0 3", "+1p-104s 3", "+0 3", "+0 3");
     }
 
+    /** At 5 bits the greatest float is 31 * 2^96 and the least 2^-104. */
+    private static void edgesOfTheRange() {
+        inModes(5, "+1p100", "+1p0", "+1p100", "+inf 5", "+31p96 5", "+inf 5", "+31p96 5", "+inf 5");
+        inModes(5, "-1p100", "+1p100", "+1p-104s", "-inf 5", "-31p96 5", "-31p96 5", "-inf 5", "-inf 5");
+        inModes(5, "+1p50", "+1p45", "+31p96", "+inf 5", "+31p96 1", "+inf 5", "+31p96 1", "+inf 5");
+        inModes(5, "+1p50", "+1p44", "+31p96", "+31p96 1", "+31p96 1", "+inf 5", "+31p96 1", "+31p96 1");
+        // The product alone is too large, the sum is not: no flag.
+        inAllModes(5, "+1p51", "+1p50", "-31p96", "+1p96 0");
+        inModes(5, "+1p-60", "+1p-45", "+0", "+0 3", "+0 3", "+1p-104s 3", "+0 3", "+1p-104s 3");
+        inModes(5, "-3p-60", "+1p-46", "+0", "-1p-104s 3", "-0 3", "-0 3", "-1p-104s 3", "-1p-104s 3");
+        // 2^-100 less half of the least float is below 2^-100, 2^-100 and that half is not.
+        inModes(5, "-1p-60", "+1p-45", "+1p-100", "+1p-100 3", "+15p-104s 3", "+1p-100 3", "+15p-104s 3", "+1p-100 3");
+        inModes(5, "+1p-60", "+1p-45", "+1p-100", "+1p-100 1", "+1p-100 1", "+17p-104 1", "+1p-100 1", "+17p-104 1");
+        inAllModes(5, "+1p-60", "-1p-44", "+1p-100", "+15p-104s 0");
+    }
+
     private static void specials() {
         inAllModes(11, "+0", "+inf", "+5p0", "not 16");
         inAllModes(11, "-inf", "-0", "+inf", "not 16");
@@ -109,18 +127,16 @@ public final class Promise06FuseTest {
         due.same("-2 * 5 + 12 into 5", trial.showAll(), "-1p1 +1p1 +3p2 +0 +0 +0 +0 +0");
     }
 
-    private static void refused() {
-        String before = Trial.full(24).state();
-        int[] none = {-1, 8, Integer.MIN_VALUE, Integer.MAX_VALUE};
-        for (int place = 0; place < 4; place++) {
-            for (int n : none) {
-                int[] s = {2, 4, 0, 1};
-                s[place] = n;
-                Trial trial = Trial.full(24);
-                String call = "fuse(" + s[0] + ", " + s[1] + ", " + s[2] + ", " + s[3] + ")";
-                due.no(call, trial.floats.fuse(s[0], s[1], s[2], s[3]));
-                due.same("after " + call, trial.state(), before);
-            }
+    /** With operands that would raise a flag, 0 times inf and inf - inf among them, and with not a number. */
+    private static void noSlot() {
+        for (int none : Refusal.NO_SLOTS) {
+            refusal.refused("fuse(" + none + ", 4, 0, 1)", f -> f.fuse(none, 4, 0, 1));
+            refusal.refused("fuse(2, " + none + ", 0, 1)", f -> f.fuse(2, none, 0, 1));
+            refusal.refused("fuse(2, 4, " + none + ", 1)", f -> f.fuse(2, 4, none, 1));
+            refusal.refused("fuse(6, 6, " + none + ", 1)", f -> f.fuse(6, 6, none, 1));
+            refusal.refused("fuse(2, 4, 0, " + none + ")", f -> f.fuse(2, 4, 0, none));
+            refusal.refused("fuse(0, 4, 5, " + none + ")", f -> f.fuse(0, 4, 5, none));
+            refusal.refused("fuse(7, 7, 0, " + none + ")", f -> f.fuse(7, 7, 0, none));
         }
     }
 }

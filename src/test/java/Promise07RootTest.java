@@ -1,12 +1,13 @@
 public final class Promise07RootTest {
     private static final Due due = new Due();
+    private static final Refusal refusal = new Refusal(due);
 
     public static void main(String[] args) {
-        ordinary();
-        rounding();
-        specials();
-        sameSlots();
-        refused();
+        due.sentence("Float into becomes the square root of x", Promise07RootTest::ordinary);
+        due.sentence("the square root of x, rounded", Promise07RootTest::rounding);
+        due.sentence("the square root of x: 0, infinite, below 0, not a number", Promise07RootTest::specials);
+        due.sentence("Float into", Promise07RootTest::sameSlots);
+        due.sentence("likewise: false, and nothing changes, if there is no such slot", Promise07RootTest::noSlot);
         due.end();
     }
 
@@ -70,13 +71,14 @@ public final class Promise07RootTest {
         due.same("roots of 81", trial.showAll(), "+0 +0 +0 +0 +0 +9p0 +3p0 +0");
     }
 
-    private static void refused() {
-        String before = Trial.full(24).state();
-        int[][] wrong = {{-1, 0}, {8, 0}, {1, -1}, {1, 8}, {0, 8}, {Integer.MIN_VALUE, 0}, {1, Integer.MAX_VALUE}};
-        for (int[] w : wrong) {
-            Trial trial = Trial.full(24);
-            due.no("root(" + w[0] + ", " + w[1] + ")", trial.floats.root(w[0], w[1]));
-            due.same("after a refused root", trial.state(), before);
+    private static void noSlot() {
+        for (int none : Refusal.NO_SLOTS) {
+            for (int slot = 0; slot < 8; slot++) {
+                int s = slot;
+                refusal.refused("root(" + none + ", " + slot + ")", f -> f.root(none, s));
+                refusal.refused("root(" + slot + ", " + none + ")", f -> f.root(s, none));
+            }
+            refusal.refused("root(" + none + ", " + none + ")", f -> f.root(none, none));
         }
     }
 }

@@ -1,13 +1,14 @@
 public final class Promise08WholeTest {
     private static final Due due = new Due();
+    private static final Refusal refusal = new Refusal(due);
 
     public static void main(String[] args) {
-        alreadyWhole();
-        rounding();
-        small();
-        specials();
-        sameSlots();
-        refused();
+        due.sentence("Float into becomes x as WHOLE: one that is whole", Promise08WholeTest::alreadyWhole);
+        due.sentence("Float into becomes x as WHOLE: one that is not", Promise08WholeTest::rounding);
+        due.sentence("Float into becomes x as WHOLE: one below 1", Promise08WholeTest::small);
+        due.sentence("Float into becomes x as WHOLE: zeros, infinite, not a number", Promise08WholeTest::specials);
+        due.sentence("Float into", Promise08WholeTest::sameSlots);
+        due.sentence("likewise: false, and nothing changes, if there is no such slot", Promise08WholeTest::noSlot);
         due.end();
     }
 
@@ -72,13 +73,14 @@ public final class Promise08WholeTest {
         due.same("wholes of 20.25", trial.showAll(), "+0 +0 +0 +0 +5p2 +5p2 +0 +0");
     }
 
-    private static void refused() {
-        String before = Trial.full(24).state();
-        int[][] wrong = {{-1, 0}, {8, 0}, {1, -1}, {1, 8}, {Integer.MIN_VALUE, 0}, {1, Integer.MAX_VALUE}};
-        for (int[] w : wrong) {
-            Trial trial = Trial.full(24);
-            due.no("whole(" + w[0] + ", " + w[1] + ")", trial.floats.whole(w[0], w[1]));
-            due.same("after a refused whole", trial.state(), before);
+    private static void noSlot() {
+        for (int none : Refusal.NO_SLOTS) {
+            for (int slot = 0; slot < 8; slot++) {
+                int s = slot;
+                refusal.refused("whole(" + none + ", " + slot + ")", f -> f.whole(none, s));
+                refusal.refused("whole(" + slot + ", " + none + ")", f -> f.whole(s, none));
+            }
+            refusal.refused("whole(" + none + ", " + none + ")", f -> f.whole(none, none));
         }
     }
 }

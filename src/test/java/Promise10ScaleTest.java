@@ -1,13 +1,16 @@
 public final class Promise10ScaleTest {
     private static final Due due = new Due();
+    private static final Refusal refusal = new Refusal(due);
 
     public static void main(String[] args) {
-        exact();
-        rounding();
-        overflow();
-        specials();
-        sameSlots();
-        refused();
+        due.sentence("Float into becomes x * 2^k", Promise10ScaleTest::exact);
+        due.sentence("rounded: too small", Promise10ScaleTest::rounding);
+        due.sentence("rounded: too large", Promise10ScaleTest::overflow);
+        due.sentence("x * 2^k: zeros, infinite, not a number", Promise10ScaleTest::specials);
+        due.sentence("x * 2^k: k from -400 to 400", Promise10ScaleTest::everyPower);
+        due.sentence("Float into", Promise10ScaleTest::sameSlots);
+        due.sentence("false likewise", Promise10ScaleTest::noSlot);
+        due.sentence("or if k is not -400..400", Promise10ScaleTest::tooFar);
         due.end();
     }
 
@@ -74,15 +77,35 @@ public final class Promise10ScaleTest {
         due.same("-3 scaled", trial.showAll(), "+0 +0 +0 +0 +0 -3p4 -0 -inf");
     }
 
-    private static void refused() {
-        String before = Trial.full(24).state();
-        int[][] wrong = {{-1, 0, 0}, {8, 0, 0}, {1, 0, -1}, {1, 0, 8}, {0, 401, 1}, {0, -401, 1}, {2, 401, 1}, {6, -401, 1},
-            {0, Integer.MAX_VALUE, 1}, {0, Integer.MIN_VALUE, 1}, {Integer.MIN_VALUE, 0, 0}, {1, 0, Integer.MAX_VALUE}};
-        for (int[] w : wrong) {
-            Trial trial = Trial.full(24);
-            String call = "scale(" + w[0] + ", " + w[1] + ", " + w[2] + ")";
-            due.no(call, trial.floats.scale(w[0], w[1], w[2]));
-            due.same("after " + call, trial.state(), before);
+    private static void everyPower() {
+        for (int k = -400; k <= 400; k++) {
+            String high = k > 0 ? "-inf 5" : k < -223 ? "-0 3" : "-1p" + (100 + k) + (k < -200 ? "s 0" : " 0");
+            String low = k < 0 ? "-0 3" : k > 223 ? "-inf 5" : "-1p" + (-123 + k) + (k < 23 ? "s 0" : " 0");
+            inModes(24, "-1p100", k, high, high.replace("inf", "16777215p77"), high.replace("inf", "16777215p77"),
+                high.replace("-0", "-1p-123s"), k == -224 ? "-1p-123s 3" : high);
+            inModes(24, "-1p-123s", k, low, low.replace("inf", "16777215p77"), low.replace("inf", "16777215p77"),
+                low.replace("-0", "-1p-123s"), k == -1 ? "-1p-123s 3" : low);
+        }
+    }
+
+    private static void noSlot() {
+        for (int none : Refusal.NO_SLOTS) {
+            for (int slot = 0; slot < 8; slot++) {
+                int s = slot;
+                refusal.refused("scale(" + none + ", 1, " + slot + ")", f -> f.scale(none, 1, s));
+                refusal.refused("scale(" + slot + ", 400, " + none + ")", f -> f.scale(s, 400, none));
+                refusal.refused("scale(" + slot + ", -400, " + none + ")", f -> f.scale(s, -400, none));
+            }
+        }
+    }
+
+    private static void tooFar() {
+        for (int k : new int[] {-401, 401, -402, 402, 65536, Integer.MIN_VALUE, Integer.MAX_VALUE}) {
+            for (int slot = 0; slot < 8; slot++) {
+                int s = slot;
+                refusal.refused("scale(" + slot + ", " + k + ", 0)", f -> f.scale(s, k, 0));
+            }
+            refusal.refused("scale(8, " + k + ", 0)", f -> f.scale(8, k, 0));
         }
     }
 }

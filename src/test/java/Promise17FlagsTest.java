@@ -2,10 +2,12 @@ public final class Promise17FlagsTest {
     private static final Due due = new Due();
 
     public static void main(String[] args) {
-        each();
-        sums();
-        joinOthers();
-        stay();
+        due.sentence("The sum of all flags", Promise17FlagsTest::each);
+        due.sentence("The sum of all flags: each counts once", Promise17FlagsTest::sums);
+        due.sentence("The sum of all flags: those that come later join", Promise17FlagsTest::joinOthers);
+        due.sentence("they are gone then", Promise17FlagsTest::gone);
+        due.sentence("FLAGS stay until they are taken", Promise17FlagsTest::stay);
+        due.sentence("flags takes the flags, and nothing else", Promise17FlagsTest::nothingElse);
         due.end();
     }
 
@@ -117,5 +119,31 @@ public final class Promise17FlagsTest {
         floats.exponent(1);
         floats.bits(1, 0);
         taken("an underflow and all other calls", floats, 3);
+    }
+
+    /** And a flag that was taken is raised again like a new one. */
+    private static void gone() {
+        for (int flags : new int[] {0, 1, 3, 5, 7, 8, 16, 24, 25, 31}) {
+            for (int mode = 0; mode < 5; mode++) {
+                Trial trial = Trial.ofEveryKind(24, mode, flags);
+                due.same("flags", trial.floats.flags(), flags);
+                due.same("flags after they were taken", trial.floats.flags(), 0);
+                trial.floats.calculate(1, 4, 4, 7);
+                due.same("flags raised again", trial.floats.flags(), 16);
+                due.same("flags after they were taken again", trial.floats.flags(), 0);
+            }
+        }
+    }
+
+    private static void nothingElse() {
+        for (int precision : new int[] {2, 24, 64}) {
+            for (int mode = 0; mode < 5; mode++) {
+                Trial trial = Trial.ofEveryKind(precision, mode, 31);
+                String before = trial.showEverything();
+                trial.floats.flags();
+                due.same("slots after flags", trial.showEverything(), before);
+                due.same("mode after flags", Refusal.roundings(trial), Refusal.roundings(precision, mode));
+            }
+        }
     }
 }

@@ -1,88 +1,118 @@
 public final class Promise18OrderAndLimitsTest {
     private static final Due due = new Due();
+    private static final Refusal refusal = new Refusal(due);
 
     public static void main(String[] args) {
-        refusedCallsChangeNothing();
-        stepsFromZero();
-        wholeIsInexactAtMost();
-        lastsForItsCalls();
+        due.sentence("A call that is refused, because a number is not as said there, changes nothing",
+            Promise18OrderAndLimitsTest::numbers);
+        due.sentence("A call that is refused, because something is not there, changes nothing",
+            Promise18OrderAndLimitsTest::slots);
+        due.sentence("A call that is refused changes nothing: nor do many of them", Promise18OrderAndLimitsTest::many);
+        due.sentence("step: from a zero of either sign it is, up, the least float above 0",
+            Promise18OrderAndLimitsTest::upFromZero);
+        due.sentence("and, down, the greatest float below 0", Promise18OrderAndLimitsTest::downFromZero);
+        due.sentence("whole sets no flag but INEXACT", Promise18OrderAndLimitsTest::wholeIsInexactAtMost);
         due.end();
     }
 
-    /** Every refusal after one another on one object: flags, mode and floats are as before them. */
-    private static void refusedCallsChangeNothing() {
-        for (int precision : new int[] {2, 24, 64}) {
-            Trial trial = Trial.full(precision);
-            LimbFloats f = trial.floats;
-            due.no("load, slot", f.load(8, 33, 0));
-            due.no("load, e", f.load(0, 33, 301));
-            due.no("special, slot", f.special(-1, 1, true));
-            due.no("special, what", f.special(0, 3, true));
-            due.no("mode", f.mode(5));
-            due.no("calculate, op", f.calculate(7, 0, 1, 2));
-            due.no("calculate, into, of what would be invalid", f.calculate(0, 4, 5, 8));
-            due.no("calculate, into, of what would divide by zero", f.calculate(3, 0, 2, -1));
-            due.no("calculate, x", f.calculate(5, 8, 0, 0));
-            due.no("fuse, z", f.fuse(0, 1, 8, 0));
-            due.no("fuse, into, of what would be invalid", f.fuse(2, 4, 0, 9));
-            due.no("root, into, of what would be invalid", f.root(1, 8));
-            due.no("root, x", f.root(-1, 1));
-            due.no("whole, into, of what would be inexact", f.whole(1, -1));
-            due.no("step, into", f.step(0, true, 8));
-            due.no("scale, k", f.scale(0, 401, 1));
-            due.no("scale, into, of what would overflow", f.scale(0, 400, 8));
-            due.same("compare", f.compare(0, 8), -2);
-            due.same("integer", f.integer(8), 0);
-            due.same("kind", f.kind(8), -1);
-            due.no("negative", f.negative(8));
-            due.same("exponent", f.exponent(8), -1000);
-            due.same("bits", f.bits(8, 0), 0);
-            due.same("after refused calls", trial.state(), Trial.full(precision).state());
-        }
+    /** Just beyond each bound; the tests of the promises go farther. */
+    private static void numbers() {
+        refusal.refused("load(0, 33, 301)", f -> f.load(0, 33, 301));
+        refusal.refused("load(0, 33, -301)", f -> f.load(0, 33, -301));
+        refusal.refused("special(0, 3, true)", f -> f.special(0, 3, true));
+        refusal.refused("special(0, -1, true)", f -> f.special(0, -1, true));
+        refusal.refused("mode(5)", f -> f.mode(5));
+        refusal.refused("mode(-1)", f -> f.mode(-1));
+        refusal.refused("calculate(7, 0, 1, 2)", f -> f.calculate(7, 0, 1, 2));
+        refusal.refused("calculate(-1, 0, 1, 2)", f -> f.calculate(-1, 0, 1, 2));
+        refusal.refused("scale(0, 401, 1)", f -> f.scale(0, 401, 1));
+        refusal.refused("scale(0, -401, 1)", f -> f.scale(0, -401, 1));
+        refusal.answers("bits(0, 4)", 0, f -> f.bits(0, 4));
+        refusal.answers("bits(0, -1)", 0, f -> f.bits(0, -1));
     }
 
-    private static void stepsFromZero() {
+    /** Where the call, had it been carried out, would have raised a flag: it is not carried out in part. */
+    private static void slots() {
+        refusal.refused("load, inexact", f -> f.load(8, Integer.MAX_VALUE, -140));
+        refusal.refused("load, overflow", f -> f.load(8, 1, 300));
+        refusal.refused("load, underflow", f -> f.load(-1, 1, -300));
+        refusal.refused("special", f -> f.special(8, 1, true));
+        refusal.refused("calculate, overflow", f -> f.calculate(3, 0, 7, 8));
+        refusal.refused("calculate, underflow", f -> f.calculate(2, 7, 7, -1));
+        refusal.refused("calculate, division by zero", f -> f.calculate(3, 0, 2, -1));
+        refusal.refused("calculate, invalid", f -> f.calculate(0, 4, 5, 8));
+        refusal.refused("calculate, invalid remainder", f -> f.calculate(4, 0, 3, 8));
+        refusal.refused("fuse, invalid", f -> f.fuse(2, 4, 0, 8));
+        refusal.refused("fuse, inexact", f -> f.fuse(7, 7, 0, -1));
+        refusal.refused("root, invalid", f -> f.root(1, 8));
+        refusal.refused("root, inexact", f -> f.root(0, -1));
+        refusal.refused("whole, inexact", f -> f.whole(1, 8));
+        refusal.refused("step", f -> f.step(0, true, 8));
+        refusal.refused("scale, overflow", f -> f.scale(0, 400, 8));
+        refusal.refused("scale, underflow", f -> f.scale(0, -400, -1));
+        refusal.answers("compare", -2, f -> f.compare(0, 8));
+        refusal.answers("integer", 0, f -> f.integer(8));
+        refusal.answers("kind", -1, f -> f.kind(8));
+        refusal.answers("negative", false, f -> f.negative(8));
+        refusal.answers("exponent", -1000, f -> f.exponent(8));
+        refusal.answers("bits", 0, f -> f.bits(8, 0));
+    }
+
+    private static void many() {
+        refusal.refused("a hundred refused calls", Promise18OrderAndLimitsTest::hundredTimes);
+    }
+
+    private static boolean hundredTimes(LimbFloats f) {
+        boolean accepted = false;
+        for (int i = 0; i < 10; i++) {
+            accepted |= f.load(8 + i, 33, 0) | f.load(i % 8, 33, 301 + i) | f.special(-1 - i, i % 3, true)
+                | f.special(i % 8, 3 + i, false) | f.mode(5 + i) | f.calculate(7 + i, 0, 1, 2)
+                | f.fuse(2, 4, i % 8, 8 + i) | f.root(1, 8 + i) | f.whole(1, -1 - i) | f.scale(0, 401 + i, 1);
+        }
+        return accepted;
+    }
+
+    private static void upFromZero() {
         for (int precision = 2; precision <= 64; precision++) {
-            int least = -100 - precision + 1;
-            for (String zero : new String[] {"+0", "-0"}) {
-                due.same("up from " + zero, Trial.stepped(precision, 3, zero, true), "+1p" + least + "s 0");
-                due.same("down from " + zero, Trial.stepped(precision, 2, zero, false), "-1p" + least + "s 0");
+            for (int mode = 0; mode < 5; mode++) {
+                String least = "+" + Trial.leastTimes(precision, 1) + " 0";
+                due.same("up from +0", Trial.stepped(precision, mode, "+0", true), least);
+                due.same("up from -0", Trial.stepped(precision, mode, "-0", true), least);
             }
         }
     }
 
+    private static void downFromZero() {
+        for (int precision = 2; precision <= 64; precision++) {
+            for (int mode = 0; mode < 5; mode++) {
+                String greatest = "-" + Trial.leastTimes(precision, 1) + " 0";
+                due.same("down from +0", Trial.stepped(precision, mode, "+0", false), greatest);
+                due.same("down from -0", Trial.stepped(precision, mode, "-0", false), greatest);
+            }
+        }
+    }
+
+    /** Neither UNDERFLOW for what is below 2^-100 nor OVERFLOW for the greatest float. */
     private static void wholeIsInexactAtMost() {
-        for (int mode = 0; mode < 5; mode++) {
-            for (int precision = 2; precision <= 64; precision++) {
-                Trial trial = new Trial(precision);
-                trial.floats.mode(mode);
-                trial.floats.step(0, true, 0);
-                trial.floats.special(1, 1, true);
-                trial.floats.step(1, true, 1);
-                trial.floats.load(2, 1, 0);
-                trial.floats.step(2, false, 2);
-                trial.floats.flags();
-                trial.floats.whole(0, 3);
-                due.same("flags of whole, least float", trial.floats.flags(), 1);
-                trial.floats.whole(1, 4);
-                due.same("flags of whole, greatest float", trial.floats.flags(), 0);
-                trial.floats.whole(2, 5);
-                due.same("flags of whole, float below 1", trial.floats.flags(), 1);
-                due.same("least float, whole", trial.show(3), mode == 2 ? "+1p0" : "+0");
-                due.same("greatest float, whole", trial.show(4), trial.show(1));
-                due.same("float below 1, whole", trial.show(5), mode == 1 || mode == 3 ? "+0" : "+1p0");
+        for (int precision = 2; precision <= 64; precision++) {
+            for (int mode = 0; mode < 5; mode++) {
+                String least = Trial.leastTimes(precision, 1);
+                whole(precision, mode, "+" + least, mode == 2 ? "+1p0 1" : "+0 1");
+                whole(precision, mode, "-" + least, mode == 3 ? "-1p0 1" : "-0 1");
+                String below = Trial.greatestSubnormal(precision);
+                whole(precision, mode, "+" + below, mode == 2 ? "+1p0 1" : "+0 1");
+                whole(precision, mode, "-" + below, mode == 3 ? "-1p0 1" : "-0 1");
+                String belowOne = Trial.greatest(precision, -1);
+                whole(precision, mode, "+" + belowOne, mode == 1 || mode == 3 ? "+0 1" : "+1p0 1");
+                whole(precision, mode, "-" + belowOne, mode == 1 || mode == 2 ? "-0 1" : "-1p0 1");
+                String greatest = Trial.greatest(precision, 100);
+                whole(precision, mode, "+" + greatest, "+" + greatest + " 0");
+                whole(precision, mode, "-" + greatest, "-" + greatest + " 0");
             }
         }
     }
 
-    /** The 512th call is answered as the first. */
-    private static void lastsForItsCalls() {
-        LimbFloats floats = new LimbFloats(24);
-        floats.load(0, 1, 0);
-        floats.load(1, 1, 0);
-        for (int i = 2; i < 511; i++) {
-            due.yes("call " + i, floats.calculate(0, 0, 1, 0));
-        }
-        due.same("510 times 1", floats.integer(0), 510);
+    private static void whole(int precision, int mode, String x, String want) {
+        due.same("whole of " + x + " at " + precision + " in mode " + mode, Trial.madeWhole(precision, mode, x), want);
     }
 }

@@ -97,7 +97,7 @@ final class Trial {
         return shown + " " + floats.flags();
     }
 
-    private static Trial with(int precision, int mode, String... values) {
+    static Trial with(int precision, int mode, String... values) {
         Trial trial = new Trial(precision);
         for (int i = 0; i < values.length; i++) {
             trial.put(i, values[i]);
@@ -106,71 +106,109 @@ final class Trial {
         return trial;
     }
 
+    /** A call on operands in slots 0, 1 and 2, with its result in slot 6. */
+    interface Act {
+        boolean on(LimbFloats floats);
+    }
+
     // Each of these answers the result and the flags, as in "+inf 5".
 
+    static String done(int precision, int mode, Act act, String... operands) {
+        Trial trial = with(precision, mode, operands);
+        boolean accepted = act.on(trial.floats);
+        return trial.resultOf(6) + (accepted ? "" : " refused");
+    }
+
     static String loaded(int precision, int mode, int m, int e) {
-        Trial trial = with(precision, mode);
-        trial.floats.load(6, m, e);
-        return trial.resultOf(6);
+        return done(precision, mode, f -> f.load(6, m, e));
     }
 
     static String calculated(int precision, int mode, int op, String x, String y) {
-        Trial trial = with(precision, mode, x, y);
-        trial.floats.calculate(op, 0, 1, 6);
-        return trial.resultOf(6);
+        return done(precision, mode, f -> f.calculate(op, 0, 1, 6), x, y);
     }
 
     static String fused(int precision, int mode, String x, String y, String z) {
-        Trial trial = with(precision, mode, x, y, z);
-        trial.floats.fuse(0, 1, 2, 6);
-        return trial.resultOf(6);
+        return done(precision, mode, f -> f.fuse(0, 1, 2, 6), x, y, z);
     }
 
     static String rooted(int precision, int mode, String x) {
-        Trial trial = with(precision, mode, x);
-        trial.floats.root(0, 6);
-        return trial.resultOf(6);
+        return done(precision, mode, f -> f.root(0, 6), x);
     }
 
     static String madeWhole(int precision, int mode, String x) {
-        Trial trial = with(precision, mode, x);
-        trial.floats.whole(0, 6);
-        return trial.resultOf(6);
+        return done(precision, mode, f -> f.whole(0, 6), x);
     }
 
     static String stepped(int precision, int mode, String x, boolean up) {
-        Trial trial = with(precision, mode, x);
-        trial.floats.step(0, up, 6);
-        return trial.resultOf(6);
+        return done(precision, mode, f -> f.step(0, up, 6), x);
     }
 
     static String scaled(int precision, int mode, String x, int k) {
-        Trial trial = with(precision, mode, x);
-        trial.floats.scale(0, k, 6);
-        return trial.resultOf(6);
+        return done(precision, mode, f -> f.scale(0, k, 6), x);
     }
 
     static int compared(int precision, String x, String y) {
         return with(precision, 0, x, y).floats.compare(0, 1);
     }
 
-    /** An object with something of every kind in its slots, mode 2 and the flags of an underflow. */
-    static Trial full(int precision) {
-        Trial trial = with(precision, 2, "+3p0", "-3p-3", "+0", "-0", "+inf", "-inf", "not");
-        trial.floats.load(7, 1, -300);
+    // Floats of a precision, as texts without their sign.
+
+    static String leastTimes(int precision, int count) {
+        if (count == 0) {
+            return "0";
+        }
+        int low = Integer.numberOfTrailingZeros(count);
+        boolean subnormal = BigInteger.valueOf(count).bitLength() < precision;
+        return (count >> low) + "p" + (-100 - precision + 1 + low) + (subnormal ? "s" : "");
+    }
+
+    /** Of those with this exponent. */
+    static String greatest(int precision, int exponent) {
+        return BigInteger.ONE.shiftLeft(precision).subtract(BigInteger.ONE) + "p" + (exponent - precision + 1);
+    }
+
+    static String greatestSubnormal(int precision) {
+        return BigInteger.ONE.shiftLeft(precision - 1).subtract(BigInteger.ONE) + "p" + (-100 - precision + 1) + "s";
+    }
+
+    /** An object with something of every kind in its slots, a mode, and flags that can come together. */
+    static Trial ofEveryKind(int precision, int mode, int flags) {
+        Trial trial = with(precision, 0, "+3p0", "-3p-3", "+0", "-0", "+inf", "-inf", "not");
+        trial.raise(flags);
+        trial.floats.special(7, 0, true);
+        trial.floats.step(7, false, 7);
+        trial.floats.mode(mode);
         return trial;
     }
 
-    /** All that shows of a {@link #full} object, at the price of its flags; 1/3 tells the mode. */
-    String state() {
-        String slots = showAll();
-        int flags = floats.flags();
-        floats.load(0, 1, 0);
-        floats.load(1, 3, 0);
-        floats.calculate(DIVIDE, 0, 1, 2);
-        String up = show(2);
-        floats.load(0, -1, 0);
-        floats.calculate(DIVIDE, 0, 1, 2);
-        return slots + ", flags " + flags + ", 1/3 " + up + ", -1/3 " + show(2);
+    /** Needs the slots of {@link #ofEveryKind}; slot 7 is lost. */
+    private void raise(int flags) {
+        if ((flags & 1) != 0) {
+            floats.root(0, 7);
+        }
+        if ((flags & 2) != 0) {
+            floats.load(7, 1, -300);
+        }
+        if ((flags & 4) != 0) {
+            floats.load(7, 1, 300);
+        }
+        if ((flags & 8) != 0) {
+            floats.calculate(DIVIDE, 0, 2, 7);
+        }
+        if ((flags & 16) != 0) {
+            floats.calculate(ADD, 4, 5, 7);
+        }
+    }
+
+    /** All that shows of the slots: each of them, each as an int, and each compared with itself and others. */
+    String showEverything() {
+        StringBuilder all = new StringBuilder(showAll());
+        for (int slot = 0; slot < 8; slot++) {
+            all.append(" ").append(floats.integer(slot));
+            for (int apart = 0; apart < 3; apart++) {
+                all.append(",").append(floats.compare(slot, (slot + apart) % 8));
+            }
+        }
+        return all.toString();
     }
 }
