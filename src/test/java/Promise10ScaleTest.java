@@ -8,6 +8,7 @@ public final class Promise10ScaleTest {
         due.sentence("rounded: too large", Promise10ScaleTest::overflow);
         due.sentence("x * 2^k: zeros, infinite, not a number", Promise10ScaleTest::specials);
         due.sentence("x * 2^k: k from -400 to 400", Promise10ScaleTest::everyPower);
+        due.sentence("x * 2^k: too small or too large, and then another call", Promise10ScaleTest::nothingStays);
         due.sentence("Float into", Promise10ScaleTest::sameSlots);
         due.sentence("false likewise", Promise10ScaleTest::noSlot);
         due.sentence("or if k is not -400..400", Promise10ScaleTest::tooFar);
@@ -66,6 +67,29 @@ public final class Promise10ScaleTest {
             inAllModes(11, "-inf", k, "-inf 0");
             inAllModes(11, "not", k, "not 0");
         }
+    }
+
+    private static void nothingStays() {
+        for (int mode = 0; mode < 5; mode++) {
+            for (String x : new String[] {"+1p-163s", "-1p-163s"}) {
+                afterScale(mode, x, -400, "+3p0 0", f -> f.load(6, 3, 0));
+                afterScale(mode, x, -400, "+9p0 0", f -> f.calculate(2, 1, 1, 6));
+                afterScale(mode, x, -400, "+3p0 0", f -> f.root(2, 6));
+                afterScale(mode, x, -400, "+0 0", f -> f.compare(2, 2) == 0);
+            }
+            for (String x : new String[] {"+18446744073709551615p37", "-18446744073709551615p37"}) {
+                afterScale(mode, x, 400, "+3p0 0", f -> f.load(6, 3, 0));
+                afterScale(mode, x, 400, "+9p0 0", f -> f.calculate(2, 1, 1, 6));
+                afterScale(mode, x, 400, "+3p0 0", f -> f.root(2, 6));
+                afterScale(mode, x, 400, "+0 0", f -> f.compare(2, 2) == 0);
+            }
+        }
+    }
+
+    /** Slots 1 and 2 are 3 and 9. */
+    private static void afterScale(int mode, String x, int k, String want, Trial.Act next) {
+        Trial.Act both = f -> f.scale(0, k, 5) && f.flags() > 0 && next.on(f);
+        due.same("after " + x + " * 2^" + k + " in mode " + mode, Trial.done(64, mode, both, x, "+3p0", "+9p0"), want);
     }
 
     private static void sameSlots() {
