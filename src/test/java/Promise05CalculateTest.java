@@ -57,6 +57,9 @@ public final class Promise05CalculateTest {
         String ones = "+" + ALL_ONES + "p0";
         inModes(64, MULTIPLY, ones, "+" + ALL_ONES + "p-60", "+9223372036854775807p5 1", "+9223372036854775807p5 1",
             "+" + ALL_ONES + "p4 1", "+9223372036854775807p5 1", "+9223372036854775807p5 1");
+        // 5/7 is 0.101101.. in bits: 64 of them, and then 01101..
+        String sevenths = "+13176245766935394011p-64 1";
+        inModes(64, DIVIDE, "+5p0", "+7p0", sevenths, sevenths, "+3294061441733848503p-62 1", sevenths, sevenths);
         // 1 / (2^64 - 1) is 2^-64 and a little more than half of the last bit.
         String more = "+9223372036854775809p-127 1";
         inModes(64, DIVIDE, "+1p0", ones, more, "+1p-64 1", more, "+1p-64 1", more);
