@@ -1,11 +1,9 @@
 import java.io.IOException;
-import java.lang.reflect.Constructor;
 import java.lang.reflect.Field;
 import java.lang.reflect.Method;
 import java.lang.reflect.Modifier;
 import java.nio.file.Files;
 import java.nio.file.Path;
-import java.util.Arrays;
 import java.util.HashSet;
 import java.util.Map;
 import java.util.Set;
@@ -14,16 +12,10 @@ import java.util.TreeSet;
 import java.util.regex.Matcher;
 import java.util.regex.Pattern;
 
-/** The public face of the document, and the rules of LANGUAGE.md that can be seen from the text. */
+/** The rules of LANGUAGE.md that can be seen from the text; what is public is looked at by PublicFaceTest. */
 public final class LanguageTest {
     private static final String SOURCE = "src/main/java/LimbFloats.java";
     private static final int MOST_LINES = 60, MOST_DEPTH = 6, MOST_FIELDS = 40, MOST_PARAMETERS = 7;
-    private static final String[] FACE = {
-        "boolean load(int, int, int)", "boolean special(int, int, boolean)", "boolean mode(int)",
-        "boolean calculate(int, int, int, int)", "boolean fuse(int, int, int, int)", "boolean root(int, int)",
-        "boolean whole(int, int)", "boolean step(int, boolean, int)", "boolean scale(int, int, int)",
-        "int compare(int, int)", "int integer(int)", "int kind(int)", "boolean negative(int)", "int exponent(int)",
-        "int bits(int, int)", "int flags()"};
     private static final String[] FORBIDDEN = {"import", "package", "float", "double", "String", "Math", "Integer", "Long",
         "System", "Arrays", "Object", "null", "throw", "throws", "try", "catch", "finally", "synchronized", "assert",
         "instanceof", "interface", "enum", "record", "protected", "abstract", "native", "var", "super", "getClass",
@@ -34,7 +26,6 @@ public final class LanguageTest {
 
     public static void main(String[] args) throws IOException {
         String code = Files.readString(Path.of(SOURCE)).replaceAll("(?s)/\\*.*?\\*/", "").replaceAll("//[^\n]*", "");
-        face();
         members();
         words(code);
         for (Method method : LimbFloats.class.getDeclaredMethods()) {
@@ -46,34 +37,6 @@ public final class LanguageTest {
             due.yes("calls below " + method, depth(method, new HashSet<>()) <= MOST_DEPTH);
         }
         due.end();
-    }
-
-    private static String head(Method method) {
-        String parameters = Arrays.toString(method.getParameterTypes());
-        return method.getReturnType() + " " + method.getName() + "(" + parameters.substring(1, parameters.length() - 1) + ")";
-    }
-
-    private static void face() {
-        Set<String> got = new TreeSet<>();
-        Set<String> constants = new TreeSet<>();
-        for (Method method : LimbFloats.class.getDeclaredMethods()) {
-            if (!Modifier.isPrivate(method.getModifiers())) {
-                got.add(head(method));
-                due.yes("public " + method, Modifier.isPublic(method.getModifiers()));
-                due.no("static " + method, Modifier.isStatic(method.getModifiers()));
-            }
-        }
-        for (Field field : LimbFloats.class.getDeclaredFields()) {
-            if (!Modifier.isPrivate(field.getModifiers())) {
-                constants.add(field.toString().replaceAll(".* (\\S+) LimbFloats\\.", "$1 "));
-                due.same("modifiers of " + field, Modifier.toString(field.getModifiers()), "public static final");
-            }
-        }
-        due.same("methods", got.toString(), new TreeSet<>(Arrays.asList(FACE)).toString());
-        due.same("constants", constants.toString(), "[int INFINITE, int NORMAL, int NOT, int SUBNORMAL, int ZERO]");
-        due.same("class", Modifier.toString(LimbFloats.class.getModifiers()), "public final");
-        Constructor<?>[] constructors = LimbFloats.class.getDeclaredConstructors();
-        due.same("constructors", Arrays.toString(constructors), "[public LimbFloats(int)]");
     }
 
     private static void members() {
